@@ -20,6 +20,7 @@ public final class LoanChecker {
     private static final int REFERENCES = 4;
     private static final int OWNERS = 4;
     private static final int ALL_OWNERS = 15;
+    private static final int HOLDINGS = MAX_POINTS * REFERENCES;
 
     // A set of loans has bit b for a loan made at b, and this one, above them all, for no loan.
     private static final int NO_LOAN = 1 << MAX_POINTS;
@@ -44,7 +45,7 @@ public final class LoanChecker {
     // What analyse finds, for the moment before each point is done. A reference is live at a
     // point if a loan that it alone held there could still come to a use.
     private final boolean[] seen = new boolean[MAX_POINTS];
-    private final int[] loans = new int[MAX_POINTS * REFERENCES];
+    private final int[] loans = new int[HOLDINGS];
     private final int[] emptyOwners = new int[MAX_POINTS];
     private final int[] liveRefs = new int[MAX_POINTS];
 
@@ -273,7 +274,7 @@ public final class LoanChecker {
             emptyOwners[p] = 0;
             liveRefs[p] = 0;
         }
-        for (int i = 0; i < MAX_POINTS * REFERENCES; i++) {
+        for (int i = 0; i < HOLDINGS; i++) {
             loans[i] = 0;
         }
     }
