@@ -85,5 +85,9 @@ public final class FaceTests {
         }
         check(!code.contains("->") && !code.contains("::"), "the source has a lambda or a method reference");
         check(!code.contains("\""), "the source has a text");
+        for (String line : code.split("\n")) {
+            boolean isField = line.matches("    private final \\w+\\[\\] \\w+ = new \\w+\\[[A-Z_]+\\];");
+            check(isField || !line.matches(".*\\bnew\\b.*"), "something is made outside a field: " + line);
+        }
     }
 }

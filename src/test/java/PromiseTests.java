@@ -1,46 +1,6 @@
 /** Each promise of the document by hand: ordinary inputs, the edges it names, and wrong inputs. */
-public final class PromiseTests {
-    private static final int SET = 0, READ = 1, CONSUME = 2, SHARE = 3, LEND = 4, MOVE = 5, COPY = 6;
-    private static final int USE = 7, RELEASE = 8, GOTO = 9, BRANCH = 10, STOP = 11;
-    private static final int BAD = LoanChecker.BAD_ARG, FULL = LoanChecker.FULL, NONE = LoanChecker.NONE;
-    private static final int[] EXTREMES = {-1, 4, 12, 24, 25, 32, 1 << 24, Integer.MAX_VALUE, Integer.MIN_VALUE};
-    private static int promise = 0;
-    private static int wrong = 0;
-
-    private static void due(String what, int got, int want) {
-        if (got != want) {
-            wrong++;
-            System.out.println("promise " + promise + ": " + what + " answered " + got + ", due is " + want);
-        }
-    }
-
-    private static void due(String what, boolean got, boolean want) {
-        due(what, got ? 1 : 0, want ? 1 : 0);
-    }
-
-    private static int set(int... points) {
-        int sum = 0;
-        for (int p : points) sum += 1 << p;
-        return sum;
-    }
-
-    /** A point as one number, for flows that are written on one line. */
-    private static int at(int kind, int x, int y) {
-        return kind * 10000 + x * 100 + y;
-    }
-
-    private static int at(int kind, int x) {
-        return at(kind, x, 0);
-    }
-
-    private static LoanChecker flow(int... points) {
-        LoanChecker flow = new LoanChecker();
-        for (int i = 0; i < points.length; i++) {
-            int number = flow.point(points[i] / 10000, points[i] / 100 % 100, points[i] % 100);
-            due("point", number, i);
-        }
-        return flow;
-    }
+public final class PromiseTests extends Checks {
+    private static final int[] EXTREMES = {-1, 4, 12, 24, 25, 32, 1 << 24, GREATEST, LEAST};
 
     public static void main(String[] args) {
         newObject();
@@ -63,12 +23,11 @@ public final class PromiseTests {
         shown();
         orderAndLimits();
         outOfRange();
-        System.out.println(wrong == 0 ? "all promises hold" : wrong + " answers are not as due");
-        if (wrong != 0) System.exit(1);
+        end("all promises hold");
     }
 
     private static void newObject() {
-        promise = 1;
+        about = "promise 1";
         LoanChecker x = new LoanChecker();
         due("points of a new one", x.points(), 0);
         due("reached of a new one", x.reached(0), false);
@@ -83,9 +42,9 @@ public final class PromiseTests {
     }
 
     private static void point() {
-        promise = 2;
+        about = "promise 2";
         LoanChecker x = new LoanChecker();
-        for (int kind : new int[] {-1, 12, Integer.MAX_VALUE, Integer.MIN_VALUE}) due("kind " + kind, x.point(kind, 0, 0), BAD);
+        for (int kind : new int[] {-1, 12, GREATEST, LEAST}) due("kind " + kind, x.point(kind, 0, 0), BAD);
         for (int kind = SET; kind <= RELEASE; kind++) {
             due("x too great, kind " + kind, x.point(kind, 4, 0), BAD);
             due("x too small, kind " + kind, x.point(kind, -1, 0), BAD);
@@ -101,13 +60,13 @@ public final class PromiseTests {
         due("points after refused ones", x.points(), 0);
         int number = 0;
         for (int kind : new int[] {SET, READ, CONSUME, USE, RELEASE}) {
-            due("y does not matter", x.point(kind, 3, Integer.MIN_VALUE), number++);
+            due("y does not matter", x.point(kind, 3, LEAST), number++);
             due("x least", x.point(kind, 0, 99), number++);
         }
         for (int kind = SHARE; kind <= COPY; kind++) due("both greatest", x.point(kind, 3, 3), number++);
         due("goto 24", x.point(GOTO, 24, -7), number++);
         due("branch 0", x.point(BRANCH, 0, 77), number++);
-        due("stop", x.point(STOP, Integer.MAX_VALUE, Integer.MIN_VALUE), number++);
+        due("stop", x.point(STOP, GREATEST, LEAST), number++);
         while (number < 24) due("up to 24", x.point(STOP, 0, 0), number++);
         due("the 25th", x.point(STOP, 0, 0), FULL);
         due("a wrong one when full", x.point(12, 0, 0), BAD);
@@ -117,7 +76,7 @@ public final class PromiseTests {
     }
 
     private static void change() {
-        promise = 3;
+        about = "promise 3";
         LoanChecker x = flow(at(SET, 0), at(LEND, 0, 0), at(USE, 0));
         due("a point that is not there", x.change(3, SET, 0, 0), BAD);
         due("a point below 0", x.change(-1, SET, 0, 0), BAD);
@@ -139,7 +98,7 @@ public final class PromiseTests {
     }
 
     private static void drop() {
-        promise = 4;
+        about = "promise 4";
         LoanChecker x = flow(at(BRANCH, 2), at(SHARE, 0, 0), at(USE, 0));
         due("idle before", x.idle(2), true);
         due("drop", x.drop(), 2);
@@ -159,7 +118,7 @@ public final class PromiseTests {
     }
 
     private static void points() {
-        promise = 5;
+        about = "promise 5";
         LoanChecker x = new LoanChecker();
         for (int i = 0; i < 24; i++) {
             due("points", x.points(), i);
@@ -172,7 +131,7 @@ public final class PromiseTests {
     }
 
     private static void reached() {
-        promise = 6;
+        about = "promise 6";
         LoanChecker x = flow(at(BRANCH, 3), at(GOTO, 5), at(USE, 0), at(STOP, 0), at(USE, 0), at(GOTO, 5), at(USE, 0));
         boolean[] want = {true, true, false, true, false, true, false};
         for (int p = 0; p < want.length; p++) due("reached " + p, x.reached(p), want[p]);
@@ -189,7 +148,7 @@ public final class PromiseTests {
     }
 
     private static void holds() {
-        promise = 7;
+        about = "promise 7";
         LoanChecker x = flow(at(SHARE, 0, 0), at(LEND, 1, 1), at(MOVE, 2, 0), at(COPY, 3, 1), at(RELEASE, 1), at(MOVE, 3, 0), at(STOP, 0));
         due("before it is done", x.holds(0, 0), 0);
         due("behind share", x.holds(1, 0), set(0));
@@ -221,7 +180,7 @@ public final class PromiseTests {
     }
 
     private static void free() {
-        promise = 8;
+        about = "promise 8";
         LoanChecker x = flow(at(SHARE, 0, 0), at(BRANCH, 3), at(RELEASE, 0), at(MOVE, 1, 0), at(COPY, 2, 1), at(COPY, 1, 3), at(STOP, 0), at(STOP, 0));
         for (int r = 0; r < 4; r++) due("at the begin", x.free(0, r), true);
         due("behind share", x.free(1, 0), false);
@@ -240,7 +199,7 @@ public final class PromiseTests {
     }
 
     private static void wanted() {
-        promise = 9;
+        about = "promise 9";
         LoanChecker x = flow(at(SET, 0), at(MOVE, 1, 0), at(COPY, 2, 1), at(RELEASE, 1), at(USE, 2), at(STOP, 0), at(USE, 3), at(USE, 0));
         due("by move and copy", x.wanted(0, 0), true);
         due("overwritten by move", x.wanted(1, 1), false);
@@ -263,7 +222,7 @@ public final class PromiseTests {
     }
 
     private static void conflicts() {
-        promise = 10;
+        about = "promise 10";
         int[] touching = {SET, READ, CONSUME};
         boolean[] sharedBreaks = {true, false, true};
         for (int i = 0; i < touching.length; i++) {
@@ -289,7 +248,7 @@ public final class PromiseTests {
     }
 
     private static void conflictsOfThisVeryLoan() {
-        promise = 10;
+        about = "promise 10";
         LoanChecker renewed = flow(at(SHARE, 0, 0), at(USE, 0), at(SET, 0), at(BRANCH, 0), at(STOP, 0));
         due("made anew in each round", renewed.conflicts(2), 0);
         LoanChecker kept = flow(at(USE, 1), at(LEND, 0, 0), at(MOVE, 1, 0), at(GOTO, 0));
@@ -307,7 +266,7 @@ public final class PromiseTests {
     }
 
     private static void unset() {
-        promise = 11;
+        about = "promise 11";
         for (int kind : new int[] {READ, CONSUME}) due("empty, kind " + kind, flow(at(kind, 2)).unset(0), true);
         for (int kind : new int[] {SHARE, LEND}) {
             due("empty, kind " + kind, flow(at(kind, 1, 2)).unset(0), true);
@@ -327,7 +286,7 @@ public final class PromiseTests {
     }
 
     private static void idle() {
-        promise = 12;
+        about = "promise 12";
         due("nothing held", flow(at(USE, 2)).idle(0), true);
         due("held", flow(at(SHARE, 2, 0), at(USE, 2)).idle(1), false);
         due("another held", flow(at(SHARE, 1, 2), at(USE, 2)).idle(1), true);
@@ -344,7 +303,7 @@ public final class PromiseTests {
     }
 
     private static void faults() {
-        promise = 13;
+        about = "promise 13";
         due("one of each", threeFaults().faults(), 3);
         due("none", flow(at(SET, 0), at(LEND, 0, 0), at(USE, 0)).faults(), 0);
         LoanChecker both = flow(at(LEND, 0, 0), at(READ, 0), at(USE, 0));
@@ -355,7 +314,7 @@ public final class PromiseTests {
     }
 
     private static void firstFault() {
-        promise = 14;
+        about = "promise 14";
         LoanChecker x = threeFaults();
         due("a conflict", x.firstFault(), 2);
         x.change(2, SET, 1, 0);
@@ -367,7 +326,7 @@ public final class PromiseTests {
     }
 
     private static void span() {
-        promise = 15;
+        about = "promise 15";
         LoanChecker x = flow(at(SET, 0), at(SHARE, 0, 0), at(COPY, 1, 0), at(RELEASE, 0), at(READ, 1), at(USE, 1), at(STOP, 0));
         due("up to the use and with it", x.span(1), set(2, 3, 4, 5));
         due("no loan made", x.span(0), 0);
@@ -385,7 +344,7 @@ public final class PromiseTests {
     }
 
     private static void broken() {
-        promise = 16;
+        about = "promise 16";
         due("one, in two places", flow(at(LEND, 0, 0), at(READ, 0), at(SET, 0), at(USE, 0)).broken(), 1);
         due("two, in one place", flow(at(SHARE, 0, 0), at(SHARE, 1, 0), at(SET, 0), at(USE, 0), at(USE, 1)).broken(), 2);
         due("two, in two places", flow(at(SHARE, 0, 0), at(SHARE, 1, 1), at(SET, 0), at(SET, 1), at(USE, 0), at(USE, 1)).broken(), 2);
@@ -393,7 +352,7 @@ public final class PromiseTests {
     }
 
     private static void shown() {
-        promise = 17;
+        about = "promise 17";
         LoanChecker x = flow(at(SET, 0), at(LEND, 0, 0), at(SET, 0), at(READ, 1), at(USE, 0), at(USE, 0));
         due("up to the first use", x.shown(1, 2), 5);
         due("not in conflict", x.shown(1, 3), NONE);
@@ -413,7 +372,7 @@ public final class PromiseTests {
     }
 
     private static void orderAndLimits() {
-        promise = 18;
+        about = "promise 18";
         LoanChecker held = flow(at(RELEASE, 0), at(USE, 0), at(USE, 1), at(STOP, 0));
         due("what r holds at p does not matter", held.wanted(1, 0), true);
         LoanChecker other = flow(at(SHARE, 0, 0), at(COPY, 1, 0), at(RELEASE, 0), at(USE, 1));
@@ -440,7 +399,7 @@ public final class PromiseTests {
     }
 
     private static void outOfRange() {
-        promise = 0;
+        about = "arguments out of range";
         LoanChecker x = threeFaults();
         for (int bad : EXTREMES) {
             if (bad >= 0 && bad < 8) continue;
