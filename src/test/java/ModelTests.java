@@ -1,13 +1,16 @@
 import java.util.ArrayDeque;
+import java.util.ArrayList;
 import java.util.HashMap;
 import java.util.HashSet;
+import java.util.List;
 import java.util.Map;
 import java.util.Set;
 
 /**
- * Made-up flows against two models that follow the document's words: one walks every path of a
- * small flow, place by place, with loans that have names; the other walks all states of a path,
- * loops and all, with the set of all references that hold the loan looked at.
+ * Made-up flows, and every flow of up to three points, against two models that follow the
+ * document's words: one walks every path of a small flow, place by place, with loans that have
+ * names; the other walks all states of a path, loops and all, with the set of all references that
+ * hold the loan looked at.
  */
 public final class ModelTests {
     private static final int LONGEST = 11;
@@ -18,6 +21,7 @@ public final class ModelTests {
     private static final int[][] flow = new int[24][];
 
     public static void main(String[] args) {
+        everySmallFlow();
         int exact = 0;
         int shownOnes = 0;
         for (int i = 0; i < 1500 && wrong < 20; i++) {
@@ -67,6 +71,38 @@ public final class ModelTests {
             int first = kind >= 9 ? pick(size + 1) : kind <= 2 ? pick(owners) : pick(references);
             int second = kind <= 4 ? pick(owners) : pick(references);
             flow[p] = new int[] {kind, first, second};
+        }
+    }
+
+    /** All points over one owner and two references, and all jumps that a flow of this size tells apart. */
+    private static List<int[]> allPoints(int size) {
+        List<int[]> all = new ArrayList<>();
+        for (int kind = 0; kind <= 11; kind++) {
+            int greatestX = kind <= 2 || kind == 11 ? 0 : kind <= 8 ? 1 : size;
+            int greatestY = kind == 5 || kind == 6 ? 1 : 0;
+            for (int x = 0; x <= greatestX; x++) {
+                for (int y = 0; y <= greatestY; y++) all.add(new int[] {kind, x, y});
+            }
+        }
+        return all;
+    }
+
+    private static void everySmallFlow() {
+        for (count = 1; count <= 3; count++) {
+            List<int[]> all = allPoints(count);
+            int flows = 1;
+            for (int p = 0; p < count; p++) flows *= all.size();
+            for (int i = 0; i < flows && wrong < 20; i++) {
+                int rest = i;
+                for (int p = 0; p < count; p++, rest /= all.size()) flow[p] = all.get(rest % all.size());
+                Paths paths = new Paths();
+                paths.walkAll();
+                // In so small a flow what a path can show is shown before the paths are cut.
+                paths.cut = false;
+                paths.compare();
+                compareStates();
+                compareSums();
+            }
         }
     }
 

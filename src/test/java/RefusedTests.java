@@ -315,7 +315,7 @@ public final class RefusedTests extends Checks {
         }
     }
 
-    /** What they answer is free, but LANGUAGE.md lets no call throw or fail to end. */
+    /** 'what later calls answer is free', but 'No call ever throws'. */
     private static void laterCallsDoNotThrow() {
         about = "later calls do not throw";
         LoanChecker x = usedUpTo(CALLS);
@@ -324,6 +324,32 @@ public final class RefusedTests extends Checks {
             if (i % 7 == 0) put(x, i % 24, ALL_POINTS[(i + 5) % 24]);
             if (i % 11 == 0) x.drop();
             if (i % 5 == 0) append(x, ALL_POINTS[i % 24]);
+        }
+        for (int a : EDGES) {
+            for (int b : EDGES) everyCall(x, a, b);
+        }
+    }
+
+    private static void everyCall(LoanChecker x, int a, int b) {
+        x.holds(a, b);
+        x.free(a, b);
+        x.wanted(a, b);
+        x.shown(a, b);
+        x.conflicts(a);
+        x.span(a);
+        x.reached(a);
+        x.unset(a);
+        x.idle(a);
+        x.points();
+        x.faults();
+        x.firstFault();
+        x.broken();
+        for (int kind : KINDS) {
+            x.change(a, kind, b, a);
+            x.change(3, kind, a, b);
+            x.drop();
+            x.point(kind, a, b);
+            if (x.points() < 23) append(x, ALL_POINTS[x.points()]);
         }
     }
 }
